@@ -178,14 +178,18 @@ public final class Counterpointery {
         int bestNote = 0;
         int bestGain = 0;
         for (int index = 0; index < line.length(); index++) {
+            int own = line.toneAt(index);
+            int before = line.costAround(laws, index);
             for (int note = 0; note < Tone.COUNT; note++) {
-                int gain = line.gainBy(laws, index, note);
+                line.put(index, note);
+                int gain = before - line.costAround(laws, index);
                 if (gain > bestGain) {
                     bestGain = gain;
                     bestIndex = index;
                     bestNote = note;
                 }
             }
+            line.put(index, own);
         }
         if (bestIndex < 0) {
             throw new NoSuchElementException("no change makes the cost less");
@@ -355,12 +359,12 @@ public final class Counterpointery {
     private boolean costIsSumOfFaults() {
         int active = laws.weighing(1);
         int sum = 0;
-        for (int i = 0; i < line.length() * Laws.COUNT; i++) {
-            int fault = line.faultNumber(i, active);
-            if (fault < 0) {
-                break;
+        for (int i = 0; i < line.length(); i++) {
+            int set = line.faultsAt(i) & active;
+            int size = Integer.bitCount(set);
+            for (int nth = 0; nth < size; nth++) {
+                sum += laws.weightOf(Laws.nthOf(set, nth));
             }
-            sum += laws.weightOf(fault % Laws.COUNT);
         }
         return sum == line.costBetween(laws, 0, line.length() - 1);
     }
@@ -514,11 +518,11 @@ public final class Counterpointery {
 
         /** How many notes the other line can have. */
         int room() {
-            return count == 0 ? 0 : (count - 1 << shift) + 1;
+            return count == 0 ? 0 : ((count - 1) << shift) + 1;
         }
 
         boolean isStrong(int index) {
-            return (index & perGiven() - 1) == 0;
+            return (index & (perGiven() - 1)) == 0;
         }
 
         /** The given note of a note of the other line. */
@@ -624,8 +628,10 @@ public final class Counterpointery {
         /** The sum of the weights of a set of laws. */
         int costOf(int set) {
             int sum = 0;
-            for (int rest = set; rest != 0; rest &= rest - 1) {
-                sum += weightOf(Integer.numberOfTrailingZeros(rest));
+            for (int law = 0; law < COUNT && set >> law != 0; law++) {
+                if ((set >> law & 1) != 0) {
+                    sum += weightOf(law);
+                }
             }
             return sum;
         }
@@ -788,7 +794,7 @@ public final class Counterpointery {
             return set;
         }
 
-        /** Whether a note is strong, and both voices are elsewhere than at the strong note before; not with the ratio 1. */
+        /** Whether at a strong note both voices are elsewhere than at the strong one before; not with the ratio 1. */
         private boolean bothMovedSinceStrong(int index) {
             int before = index - ground.perGiven();
             if (ground.perGiven() == 1 || before < 0 || !ground.isStrong(index)) {
@@ -832,17 +838,10 @@ public final class Counterpointery {
             return true;
         }
 
-        /** By how much the cost would become less with another note; the line stays as it is. */
-        int gainBy(Laws laws, int index, int note) {
+        /** The cost of all faults that a note has a part in. */
+        int costAround(Laws laws, int index) {
             // A last note decides what is feigned ahead of it; a strong one is looked back at from the next.
-            int first = index - 1;
-            int last = index + Math.max(2, ground.perGiven());
-            int own = toneAt(index);
-            int before = costBetween(laws, first, last);
-            put(index, note);
-            int after = costBetween(laws, first, last);
-            put(index, own);
-            return before - after;
+            return costBetween(laws, index - 1, index + Math.max(2, ground.perGiven()));
         }
     }
 
