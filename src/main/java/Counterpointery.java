@@ -17,9 +17,7 @@ public final class Counterpointery {
     // ---- lines
 
     public int given(int note) throws IllegalArgumentException, IllegalStateException {
-        if (!Tone.isNote(note)) {
-            throw new IllegalArgumentException("no such note");
-        }
+        requireNote(note);
         if (ground.size() >= Ground.MOST) {
             throw new IllegalStateException("the given line is full");
         }
@@ -29,9 +27,7 @@ public final class Counterpointery {
     }
 
     public int other(int note) throws IllegalArgumentException, IllegalStateException {
-        if (!Tone.isNote(note)) {
-            throw new IllegalArgumentException("no such note");
-        }
+        requireNote(note);
         if (line.isFull()) {
             throw new IllegalStateException("the other line is full");
         }
@@ -40,12 +36,8 @@ public final class Counterpointery {
     }
 
     public int change(int index, int note) throws IndexOutOfBoundsException, IllegalArgumentException {
-        if (!line.has(index)) {
-            throw new IndexOutOfBoundsException("no such index");
-        }
-        if (!Tone.isNote(note)) {
-            throw new IllegalArgumentException("no such note");
-        }
+        requireIndex(index);
+        requireNote(note);
         int before = line.toneAt(index);
         line.put(index, note);
         return before;
@@ -87,33 +79,24 @@ public final class Counterpointery {
     }
 
     public int noteAt(int index) throws IndexOutOfBoundsException {
-        if (!line.has(index)) {
-            throw new IndexOutOfBoundsException("no such index");
-        }
+        requireIndex(index);
         return line.toneAt(index);
     }
 
     public int pitch(int index) throws IndexOutOfBoundsException {
-        if (!line.has(index)) {
-            throw new IndexOutOfBoundsException("no such index");
-        }
+        requireIndex(index);
         return line.heightAt(index);
     }
 
     public char interval(int index) throws IndexOutOfBoundsException {
-        if (!line.has(index)) {
-            throw new IndexOutOfBoundsException("no such index");
-        }
+        requireIndex(index);
         return Tone.signOf(line.gapAt(index));
     }
 
     // ---- laws and faults
 
     public int setLaw(char law, int weight) throws IllegalArgumentException {
-        int which = Laws.ORDER.indexOf(law);
-        if (which < 0) {
-            throw new IllegalArgumentException("no such law");
-        }
+        int which = requiredLaw(law);
         if (weight < 0 || weight > Laws.FORBIDDING) {
             throw new IllegalArgumentException("no such weight");
         }
@@ -123,10 +106,7 @@ public final class Counterpointery {
     }
 
     public int weight(char law) throws IllegalArgumentException {
-        int which = Laws.ORDER.indexOf(law);
-        if (which < 0) {
-            throw new IllegalArgumentException("no such law");
-        }
+        int which = requiredLaw(law);
         return laws.weightOf(which);
     }
 
@@ -147,19 +127,11 @@ public final class Counterpointery {
     }
 
     public int faultAt(int index) throws IndexOutOfBoundsException {
-        int fault = line.faultNumber(index, laws.weighing(1));
-        if (fault < 0) {
-            throw new IndexOutOfBoundsException("no such fault");
-        }
-        return fault / Laws.COUNT;
+        return requiredFault(index) / Laws.COUNT;
     }
 
     public char faultOf(int index) throws IndexOutOfBoundsException {
-        int fault = line.faultNumber(index, laws.weighing(1));
-        if (fault < 0) {
-            throw new IndexOutOfBoundsException("no such fault");
-        }
-        return Laws.signOf(fault % Laws.COUNT);
+        return Laws.signOf(requiredFault(index) % Laws.COUNT);
     }
 
     public int cost() {
@@ -171,9 +143,7 @@ public final class Counterpointery {
     }
 
     public int mend() throws IllegalStateException, NoSuchElementException {
-        if (!line.isWhole()) {
-            throw new IllegalStateException("the other line is not whole");
-        }
+        requireWhole();
         int bestIndex = -1;
         int bestNote = 0;
         int bestGain = 0;
@@ -201,9 +171,8 @@ public final class Counterpointery {
     // ---- search
 
     public int range(int low, int high) throws IllegalArgumentException {
-        if (!Tone.isNote(low) || !Tone.isNote(high)) {
-            throw new IllegalArgumentException("no such note");
-        }
+        requireNote(low);
+        requireNote(high);
         if (high < low || high - low >= Search.WIDEST) {
             throw new IllegalArgumentException("no such range");
         }
@@ -212,12 +181,7 @@ public final class Counterpointery {
     }
 
     public int find() throws IllegalStateException, UnsupportedOperationException, NoSuchElementException {
-        if (ground.size() < 2) {
-            throw new IllegalStateException("the given line is too short");
-        }
-        if (ground.perGiven() == 4) {
-            throw new UnsupportedOperationException("no search with the ratio 4");
-        }
+        requireSearchable();
         Search ready = readySearch();
         int forbidden = laws.weighing(Laws.FORBIDDING);
         int least = ready.sweep(forbidden);
@@ -229,35 +193,20 @@ public final class Counterpointery {
     }
 
     public long goodLines() throws IllegalStateException, UnsupportedOperationException {
-        if (ground.size() < 2) {
-            throw new IllegalStateException("the given line is too short");
-        }
-        if (ground.perGiven() == 4) {
-            throw new UnsupportedOperationException("no search with the ratio 4");
-        }
+        requireSearchable();
         Search ready = readySearch();
         ready.sweep(laws.weighing(Laws.FORBIDDING));
         return ready.goodCount();
     }
 
     public int bars() throws IllegalStateException, UnsupportedOperationException {
-        if (ground.size() < 2) {
-            throw new IllegalStateException("the given line is too short");
-        }
-        if (ground.perGiven() == 4) {
-            throw new UnsupportedOperationException("no search with the ratio 4");
-        }
+        requireSearchable();
         return Integer.bitCount(readySearch().barring());
     }
 
     public char barAt(int index)
             throws IllegalStateException, UnsupportedOperationException, IndexOutOfBoundsException {
-        if (ground.size() < 2) {
-            throw new IllegalStateException("the given line is too short");
-        }
-        if (ground.perGiven() == 4) {
-            throw new UnsupportedOperationException("no search with the ratio 4");
-        }
+        requireSearchable();
         int barring = readySearch().barring();
         if (index < 0 || index >= Integer.bitCount(barring)) {
             throw new IndexOutOfBoundsException("no such law");
@@ -280,9 +229,7 @@ public final class Counterpointery {
         if (steps < 7 || steps > 14) {
             throw new IllegalArgumentException("no such exchange");
         }
-        if (!line.isWhole()) {
-            throw new IllegalStateException("the other line is not whole");
-        }
+        requireWhole();
         int total = 0;
         for (int i = 0; i < line.length(); i++) {
             int gap = Tone.plainGap(line.toneAt(i) - steps, ground.against(i));
@@ -307,16 +254,12 @@ public final class Counterpointery {
     }
 
     public int canons() throws IllegalStateException {
-        if (line.length() < 2) {
-            throw new IllegalStateException("the other line is too short");
-        }
+        requireTwoNotes();
         return Canons.faultlessCount(line);
     }
 
     public int canonAt(int index) throws IllegalStateException, IndexOutOfBoundsException {
-        if (line.length() < 2) {
-            throw new IllegalStateException("the other line is too short");
-        }
+        requireTwoNotes();
         int number = Canons.faultlessNumber(line, index);
         if (number < 0) {
             throw new IndexOutOfBoundsException("no such canon");
@@ -371,6 +314,57 @@ public final class Counterpointery {
 
     private boolean canTryAll() {
         return ground.perGiven() == 1 && ground.size() >= 2 && ground.size() <= 4 && ground.width() <= 8;
+    }
+
+    // ---- what calls require
+
+    private void requireNote(int note) {
+        if (!Tone.isNote(note)) {
+            throw new IllegalArgumentException("no such note");
+        }
+    }
+
+    private void requireIndex(int index) {
+        if (!line.has(index)) {
+            throw new IndexOutOfBoundsException("no such index");
+        }
+    }
+
+    private int requiredLaw(char law) {
+        int which = Laws.ORDER.indexOf(law);
+        if (which < 0) {
+            throw new IllegalArgumentException("no such law");
+        }
+        return which;
+    }
+
+    private int requiredFault(int index) {
+        int fault = line.faultNumber(index, laws.weighing(1));
+        if (fault < 0) {
+            throw new IndexOutOfBoundsException("no such fault");
+        }
+        return fault;
+    }
+
+    private void requireWhole() {
+        if (!line.isWhole()) {
+            throw new IllegalStateException("the other line is not whole");
+        }
+    }
+
+    private void requireTwoNotes() {
+        if (line.length() < 2) {
+            throw new IllegalStateException("the other line is too short");
+        }
+    }
+
+    private void requireSearchable() {
+        if (ground.size() < 2) {
+            throw new IllegalStateException("the given line is too short");
+        }
+        if (ground.perGiven() == 4) {
+            throw new UnsupportedOperationException("no search with the ratio 4");
+        }
     }
 
     /** Notes, their pitches and intervals; an interval is one number, 12 for each step and 1 a semitone. */
