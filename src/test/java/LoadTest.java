@@ -1,9 +1,8 @@
 import java.lang.management.ManagementFactory;
 
 /** The dearest calls, 512 of them on one object: they end, throw nothing of the machine, and make hardly any objects. */
-public final class LoadTest {
+public final class LoadTest extends Checks {
     private static final long MOST_BYTES = 1000000;
-    private static int wrong = 0;
 
     private static long allocated() {
         com.sun.management.ThreadMXBean threads = (com.sun.management.ThreadMXBean) ManagementFactory.getThreadMXBean();
@@ -11,20 +10,11 @@ public final class LoadTest {
     }
 
     private static void check(String what, boolean holds) {
-        if (!holds) {
-            wrong++;
-            System.out.println(what + " does not hold");
-        }
+        due(what, holds, true);
     }
 
     private static Counterpointery longest(int ratio) {
-        Counterpointery x = new Counterpointery();
-        x.ratio(ratio);
-        int[] given = {7, 9, 8, 10, 11, 9, 12, 11, 10, 9, 11, 10, 9, 8};
-        for (int note : given) {
-            x.given(note);
-        }
-        return x;
+        return house(ratio, 7, 9, 8, 10, 11, 9, 12, 11, 10, 9, 11, 10, 9, 8);
     }
 
     /** Searches whose tables are old at each call. */
@@ -111,9 +101,6 @@ public final class LoadTest {
         mending();
         trying();
         canons();
-        System.out.println(wrong == 0 ? "the load is borne" : wrong + " checks failed");
-        if (wrong != 0) {
-            System.exit(1);
-        }
+        end("the load is borne");
     }
 }

@@ -1,118 +1,28 @@
 import java.math.BigInteger;
-import java.util.NoSuchElementException;
 
 /** Each promise by hand: ordinary calls, the edges that the document names, and wrong calls. */
-public final class PromiseTest {
-    private static final String LAWS = "bedwpqhxustr";
-    private static final int[] NO_NOTES = {-1, 28, 100, Integer.MIN_VALUE, Integer.MAX_VALUE};
-    private static int wrong = 0;
-
-    private interface Call {
-        void run();
-    }
-
-    private static void due(String what, Object got, Object want) {
-        if (!want.equals(got)) {
-            wrong++;
-            System.out.println(what + " answered " + got + ", due is " + want);
-        }
-    }
-
-    private static void dueThrow(String what, Class<?> want, Call call) {
-        Class<?> got = null;
-        try {
-            call.run();
-        } catch (RuntimeException e) {
-            got = e.getClass();
-        }
-        if (got != want) {
-            wrong++;
-            System.out.println(what + " threw " + got + ", due is " + want);
-        }
-    }
-
-    private static final Class<?> ILLEGAL = IllegalArgumentException.class;
-    private static final Class<?> STATE = IllegalStateException.class;
-    private static final Class<?> INDEX = IndexOutOfBoundsException.class;
-    private static final Class<?> UNSUPPORTED = UnsupportedOperationException.class;
-    private static final Class<?> NONE_SUCH = NoSuchElementException.class;
-    private static final Class<?> ARITHMETIC = ArithmeticException.class;
-
-    // ---- helpers
-
-    private static Counterpointery house(int ratio, int... given) {
-        Counterpointery x = new Counterpointery();
-        x.ratio(ratio);
-        for (int note : given) {
-            x.given(note);
-        }
-        return x;
-    }
-
-    private static Counterpointery sing(Counterpointery x, int... notes) {
-        x.clear(false);
-        for (int note : notes) {
-            x.other(note);
-        }
-        return x;
-    }
-
-    private static String line(Counterpointery x) {
-        StringBuilder text = new StringBuilder();
-        for (int i = 0; i < x.notes(); i++) {
-            text.append(i == 0 ? "" : " ").append(x.noteAt(i));
-        }
-        return text.toString();
-    }
-
-    private static String told(Counterpointery x) {
-        StringBuilder text = new StringBuilder();
-        for (int i = 0; i < x.faults(); i++) {
-            text.append(i == 0 ? "" : " ").append(x.faultAt(i)).append(x.faultOf(i));
-        }
-        return text.toString();
-    }
-
-    private static String barsOf(Counterpointery x) {
-        StringBuilder text = new StringBuilder();
-        for (int i = 0; i < x.bars(); i++) {
-            text.append(x.barAt(i));
-        }
-        return text.toString();
-    }
-
-    private static void allWeights(Counterpointery x, int weight) {
-        for (char law : LAWS.toCharArray()) {
-            x.setLaw(law, weight);
-        }
-    }
-
+public final class PromiseTest extends Checks {
     /** The faults in style 1, of a line that may not be whole. */
     private static void dueFaults(String want, int ratio, int[] given, int... notes) {
-        Counterpointery x = house(ratio, given);
-        x.style(1);
-        sing(x, notes);
-        due("faults of " + line(x) + " with ratio " + ratio, told(x), want);
+        dueFaultsIn(house(ratio, given), "higher line", want, notes);
     }
 
     private static void dueFaultsBelow(String want, int ratio, int[] given, int... notes) {
         Counterpointery x = house(ratio, given);
-        x.style(1);
         x.lower(true);
-        sing(x, notes);
-        due("faults below of " + line(x) + " with ratio " + ratio, told(x), want);
+        dueFaultsIn(x, "lower line", want, notes);
     }
 
     private static void dueFaultsFeigned(String want, int ratio, int[] given, int... notes) {
         Counterpointery x = house(ratio, given);
-        x.style(1);
         x.feign(true);
-        sing(x, notes);
-        due("feigned faults of " + line(x) + " with ratio " + ratio, told(x), want);
+        dueFaultsIn(x, "feigned line", want, notes);
     }
 
-    private static int[] row(int... notes) {
-        return notes;
+    private static void dueFaultsIn(Counterpointery x, String what, String want, int... notes) {
+        x.style(1);
+        sing(x, notes);
+        due("faults of the " + what + " " + line(x), told(x), want);
     }
 
     // ---- lines
@@ -778,9 +688,6 @@ public final class PromiseTest {
         canons();
         figures();
         isConsistent();
-        System.out.println(wrong == 0 ? "all promises hold" : wrong + " answers are not as due");
-        if (wrong != 0) {
-            System.exit(1);
-        }
+        end("all promises hold");
     }
 }
