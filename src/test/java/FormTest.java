@@ -1,30 +1,22 @@
 import com.sun.source.tree.ArrayAccessTree;
-import com.sun.source.tree.AssertTree;
 import com.sun.source.tree.BinaryTree;
 import com.sun.source.tree.BlockTree;
 import com.sun.source.tree.ClassTree;
 import com.sun.source.tree.CompilationUnitTree;
-import com.sun.source.tree.CompoundAssignmentTree;
-import com.sun.source.tree.DoWhileLoopTree;
 import com.sun.source.tree.EnhancedForLoopTree;
 import com.sun.source.tree.ExpressionTree;
 import com.sun.source.tree.ForLoopTree;
 import com.sun.source.tree.ImportTree;
-import com.sun.source.tree.LambdaExpressionTree;
 import com.sun.source.tree.LiteralTree;
-import com.sun.source.tree.MemberReferenceTree;
 import com.sun.source.tree.MethodInvocationTree;
 import com.sun.source.tree.MethodTree;
 import com.sun.source.tree.NewArrayTree;
 import com.sun.source.tree.NewClassTree;
 import com.sun.source.tree.ParenthesizedTree;
-import com.sun.source.tree.SynchronizedTree;
 import com.sun.source.tree.ThrowTree;
 import com.sun.source.tree.Tree;
-import com.sun.source.tree.TryTree;
 import com.sun.source.tree.TypeCastTree;
 import com.sun.source.tree.VariableTree;
-import com.sun.source.tree.WhileLoopTree;
 import com.sun.source.util.JavacTask;
 import com.sun.source.util.SourcePositions;
 import com.sun.source.util.TreePath;
@@ -54,6 +46,11 @@ public final class FormTest extends Checks {
         "java.lang.String.length", "java.lang.String.charAt");
     private static final Set<String> THROWN = Set.of("IllegalStateException", "IllegalArgumentException",
         "IndexOutOfBoundsException", "ArithmeticException", "UnsupportedOperationException", "NoSuchElementException");
+    /** What the class does without, by the rule that forbids or bounds it. */
+    private static final Map<Tree.Kind, Integer> FORBIDDEN = Map.of(Tree.Kind.LAMBDA_EXPRESSION, 2,
+        Tree.Kind.MEMBER_REFERENCE, 2, Tree.Kind.TRY, 6, Tree.Kind.SYNCHRONIZED, 6, Tree.Kind.ASSERT, 6,
+        Tree.Kind.WHILE_LOOP, 9, Tree.Kind.DO_WHILE_LOOP, 9, Tree.Kind.DIVIDE_ASSIGNMENT, 7,
+        Tree.Kind.REMAINDER_ASSIGNMENT, 7);
     private static final int MOST_PARAMETERS = 7;
     private static final int MOST_LINES = 60;
     private static final int MOST_CLASSES = 12;
@@ -295,14 +292,6 @@ public final class FormTest extends Checks {
         }
 
         @Override
-        public Void visitCompoundAssignment(CompoundAssignmentTree tree, Void nothing) {
-            boolean divides = tree.getKind() == Tree.Kind.DIVIDE_ASSIGNMENT
-                    || tree.getKind() == Tree.Kind.REMAINDER_ASSIGNMENT;
-            rule(7, "no division in place", tree, !divides);
-            return super.visitCompoundAssignment(tree, nothing);
-        }
-
-        @Override
         public Void visitTypeCast(TypeCastTree tree, Void nothing) {
             rule(6, "a cast of numbers", tree, isNumber(tree.getType().toString()));
             return super.visitTypeCast(tree, nothing);
@@ -320,18 +309,6 @@ public final class FormTest extends Checks {
         }
 
         @Override
-        public Void visitWhileLoop(WhileLoopTree tree, Void nothing) {
-            rule(9, "loops are counted", tree, false);
-            return super.visitWhileLoop(tree, nothing);
-        }
-
-        @Override
-        public Void visitDoWhileLoop(DoWhileLoopTree tree, Void nothing) {
-            rule(9, "loops are counted", tree, false);
-            return super.visitDoWhileLoop(tree, nothing);
-        }
-
-        @Override
         public Void visitEnhancedForLoop(EnhancedForLoopTree tree, Void nothing) {
             loops++;
             super.visitEnhancedForLoop(tree, nothing);
@@ -340,33 +317,11 @@ public final class FormTest extends Checks {
         }
 
         @Override
-        public Void visitLambdaExpression(LambdaExpressionTree tree, Void nothing) {
-            rule(2, "no lambda", tree, false);
-            return super.visitLambdaExpression(tree, nothing);
-        }
-
-        @Override
-        public Void visitMemberReference(MemberReferenceTree tree, Void nothing) {
-            rule(2, "no method reference", tree, false);
-            return super.visitMemberReference(tree, nothing);
-        }
-
-        @Override
-        public Void visitTry(TryTree tree, Void nothing) {
-            rule(6, "nothing is caught", tree, false);
-            return super.visitTry(tree, nothing);
-        }
-
-        @Override
-        public Void visitSynchronized(SynchronizedTree tree, Void nothing) {
-            rule(6, "nothing is synchronized", tree, false);
-            return super.visitSynchronized(tree, nothing);
-        }
-
-        @Override
-        public Void visitAssert(AssertTree tree, Void nothing) {
-            rule(6, "nothing is asserted", tree, false);
-            return super.visitAssert(tree, nothing);
+        public Void scan(Tree tree, Void nothing) {
+            if (tree != null && FORBIDDEN.containsKey(tree.getKind())) {
+                rule(FORBIDDEN.get(tree.getKind()), "no " + tree.getKind(), tree, false);
+            }
+            return super.scan(tree, nothing);
         }
 
         // ---- how deep calls go
