@@ -4,6 +4,7 @@ import java.io.IOException;
 public final class BoundaryTest extends Checks {
     public static void main(String[] args) throws IOException {
         Sentences document = new Sentences();
+        FaceBoundaries.tell(document);
         TermBoundaries.tell(document);
         LawBoundaries.tell(document);
         LineBoundaries.tell(document);

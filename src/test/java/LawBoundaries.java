@@ -128,6 +128,9 @@ final class LawBoundaries extends Checks {
         due("higher", below("x", 1, 7, 7, 7), row(8, 27, 14), "0x 1x 2x");
         due("of the same number", below("x", 1, 7, 7, 7), row(7, 7, 7), "");
         due("lower", below("x", 1, 7, 7, 7), row(6, 0, 3), "");
+        Counterpointery feigning = below("x", 1, 8, 16);
+        feigning.feign(true);
+        due("feigned, of the same number", feigning, row(8, 9), "");
         Counterpointery x = sing(below("x", 1, 7, 7, 7), 8, 6);
         x.lower(false);
         due("told to be higher again", told(x), "1x");
@@ -140,6 +143,7 @@ final class LawBoundaries extends Checks {
         due("an octave", x, row(9, 15, 14, 9), "");
         due("weak notes", houseOf("u", 2, 7, 8, 7), row(9, 7, 8, 8, 9), "1u 2u 3u");
         due("the next given one", houseOf("u", 2, 7, 8, 7), row(9, 8, 9, 7, 9), "");
+        due("a feigned one", feigned("u", 1, 7, 8, 16), row(14, 8, 9), "1u");
     }
 
     private static void unisonAtTheEnds() {
@@ -255,6 +259,7 @@ final class LawBoundaries extends Checks {
     private static void strongParallelsOfMoves() {
         due("the given one stays", houseOf("q", 2, 7, 7), row(11, 14, 18), "");
         due("the other one stays", houseOf("q", 2, 7, 14), row(14, 14, 14), "");
+        due("the other one comes back", houseOf("q", 2, 7, 14), row(14, 11, 14), "");
         due("both move", houseOf("q", 2, 7, 14), row(14, 14, 21), "2q");
         due("the other one in two moves", houseOf("q", 4, 7, 8), row(14, 14, 14, 14, 15), "4q");
         due("by contrary motion", houseOf("q", 2, 7, 8), row(14, 11, 8), "2q");
@@ -310,6 +315,7 @@ final class LawBoundaries extends Checks {
         due("all the same", x, row(7, 7, 7, 7, 7), "1s 2s 3s 4s");
         due("octaves", x, row(7, 14, 7, 0, 7), "");
         due("a note between", x, row(7, 8, 7, 7, 8), "3s");
+        due("a feigned one", feigned("s", 1, 7, 7, 7), row(8, 8, 9), "1s");
     }
 
     private static void leapSteps() {

@@ -17,15 +17,17 @@ final class Sentences {
     private static final Path DOCUMENT = Path.of("..", "shared", "DOC.md");
     /** Terms that promise nothing that a call could tell. */
     private static final String[] UNTESTABLE = {
-        "A house of strict part-writing", "This class is not thread-safe", "Ahead of the calls",
+        "A house of strict part-writing", "This class is not thread-safe",
     };
     private final List<List<String>> sections = new ArrayList<>();
     private final List<List<String>> quotes = new ArrayList<>();
     private final List<String> unknown = new ArrayList<>();
+    private final List<String> face = new ArrayList<>();
 
     Sentences() throws IOException {
         String text = Files.readString(DOCUMENT, StandardCharsets.UTF_8).replace("`", "");
         addSection(sentencesOf(bodyOf(text, "## What it is") + "\n\n" + bodyOf(text, "## Terms")));
+        addFace(bodyOf(text, "## The public face"));
         for (int promise = 1; text.contains("## Promise " + promise + ":"); promise++) {
             addSection(linesOf(bodyOf(text, "## Promise " + promise + ":")));
         }
@@ -34,6 +36,14 @@ final class Sentences {
     private void addSection(List<String> sentences) {
         sections.add(sentences);
         quotes.add(new ArrayList<>());
+    }
+
+    private void addFace(String body) {
+        for (String line : body.split("\n")) {
+            if (line.strip().startsWith("public ") && line.endsWith(";")) {
+                face.add(plain(line.substring(0, line.length() - 1)));
+            }
+        }
     }
 
     /** What stands under a headline, up to the next one. */
@@ -86,6 +96,11 @@ final class Sentences {
         }
         quotes.get(promise).add(words);
         test.run();
+    }
+
+    /** The constructor and the calls of the face, as the document writes them. */
+    List<String> face() {
+        return face;
     }
 
     /** The quoted words that the document does not have. */
